@@ -46,11 +46,13 @@ public final class Openline {
     private int clocksEver;
 
     public Openline() {
-        parts = new Parts();
-        masters = new ArrayList<>();
+        Parts noParts = new Parts();
+        ArrayList<Master> noMasters = new ArrayList<>();
+        parts = noParts;
+        masters = noMasters;
         analyser = new Analyser();
-        last = new Occupation(parts, masters);
-        spare = new Occupation(parts, masters);
+        last = new Occupation(noParts, noMasters);
+        spare = new Occupation(noParts, noMasters);
     }
 
     // ---- parts

@@ -6,6 +6,7 @@ public final class ModelTest {
     private static final int CALLS = 510;
 
     private long seed;
+    private boolean isOfSamples;
 
     private ModelTest(long seed) {
         this.seed = seed;
@@ -13,7 +14,9 @@ public final class ModelTest {
 
     public static void main(String[] args) {
         for (int run = 0; run < RUNS; run++) {
-            new ModelTest(run).compare(run, run % 2 == 0);
+            ModelTest test = new ModelTest(run);
+            test.isOfSamples = run % 8 == 7;
+            test.compare(run, run % 2 == 0);
         }
         Due.end("ModelTest");
     }
@@ -72,6 +75,9 @@ public final class ModelTest {
     }
 
     private String weighted() {
+        if (isOfSamples && below(10) != 0) {
+            return "sample";
+        }
         switch (below(10)) {
             case 0: case 1: case 2: return oneOf("write read");
             case 3: case 4: return oneOf("step step run cut cut clocks");

@@ -326,6 +326,7 @@ public final class PromiseTest {
         manyAnswer();
         busyOnes();
         waiting();
+        stepLetsGo();
         stepRefused();
     }
 
@@ -604,6 +605,27 @@ public final class PromiseTest {
         Due.same("11 tick", x.bus(0), 1600 + 290);
     }
 
+    private static void stepLetsGo() {
+        Openline x = new Openline();
+        x.target(20, 0, 0, 0);
+        x.put(0, 0, 0xff);
+        x.master(10, 0);
+        for (int i = 0; i < 3; i++) {
+            x.read(0, 20, 0, false);
+        }
+        x.cut(0, 3);
+        x.would(0);
+        Due.same("11 would lets nobody go", x.ofTarget(0, 8), 5);
+        x.step();
+        Due.same("11 nobody holds any more", x.ofTarget(0, 8), 0);
+        x.cut(0, 3);
+        Due.same("12 no occupation lets nobody go", x.run(), 0);
+        Due.same("12 no occupation lets nobody go", x.ofTarget(0, 8), 5);
+        x.read(0, 20, 0, false);
+        x.run();
+        Due.same("12 nobody holds any more", x.ofTarget(0, 8), 0);
+    }
+
     private static void stepRefused() {
         Openline x = new Openline();
         Due.refused("11 no master", x, STATE, x::step);
@@ -739,6 +761,8 @@ public final class PromiseTest {
         x.read(0, 21, 0, false);
         x.read(0, 20, 16, false);
         x.read(0, 20, 1, false);
+        x.target(22, 0, 0, 0);
+        x.power(1, false);
         Due.same("13 nobody answers", x.cut(0, 4), 0);
         Due.same("13 tick", x.bus(0), 10 + 90 + 10);
         Due.same("13 bytes", x.bus(5), 1);
@@ -761,6 +785,23 @@ public final class PromiseTest {
         Due.same("13 who is busy does not answer", x.cut(0, 1), 0);
         Due.same("13 result", x.result(0, x.ofMaster(0, 3) - 1), -1);
         Due.same("13 no cut is an occupation", x.trace(), "S28+00+01+P");
+        cutLetsGo();
+    }
+
+    private static void cutLetsGo() {
+        Openline x = new Openline();
+        x.target(20, 0, 0, 0);
+        x.target(21, 0, 0, 0);
+        x.put(0, 0, 0xff);
+        x.put(1, 0, 0xff);
+        x.master(10, 0);
+        x.read(0, 20, 0, false);
+        x.read(0, 21, 0, false);
+        x.read(0, 22, 0, false);
+        Due.same("13 the first holds", x.cut(0, 3), 1);
+        Due.same("13 the other one alone", x.cut(0, 3), 2);
+        Due.same("13 refused, and nobody holds", x.cut(0, 3), 0);
+        Due.same("13 nobody holds", x.ofTarget(1, 8), 0);
     }
 
     private static void cutNotDone() {
@@ -792,6 +833,8 @@ public final class PromiseTest {
         Due.same("14 nothing holds", x.clocks(9), 0);
         x.target(20, 0, 0, 0);
         x.target(20, 0, 0, 0);
+        x.target(0, 0, 0, 0);
+        x.wire(2, 1);
         x.put(0, 1, 0b11100011);
         x.put(1, 1, 0b11111110);
         x.master(2, 0);
@@ -813,6 +856,7 @@ public final class PromiseTest {
         Due.same("14 it stops with the last bit", x.clocks(9), 7);
         Due.same("14 clocks ever", x.bus(7), 10);
         Due.same("14 nobody holds", x.ofTarget(0, 8) + x.ofTarget(1, 8), 0);
+        Due.same("14 who did not hold still does not", x.ofTarget(2, 8), 0);
         for (int many : new int[] {-1, 0, 10}) {
             Due.refused("14 many " + many, x, ARGUMENT, () -> x.clocks(many));
         }
@@ -858,6 +902,27 @@ public final class PromiseTest {
         Due.same("15 then it gets one", x.handOut(), 1);
         Due.same("15 8 is taken by one without power", x.ofTarget(4, 0), 12);
         handOutLetsGo();
+        handOutToTheFirst();
+    }
+
+    private static void handOutToTheFirst() {
+        Openline x = new Openline();
+        x.target(0, 5, 0, 0);
+        x.target(0, 6, 0, 0);
+        Due.same("15 both", x.handOut(), 2);
+        Due.same("15 the first", x.ofTarget(0, 0), 8);
+        Due.same("15 the second", x.ofTarget(1, 0), 9);
+        x.target(0, 4, 0, 0);
+        Due.same("15 one more", x.handOut(), 1);
+        Due.same("15 behind both", x.ofTarget(2, 0), 10);
+        Openline y = new Openline();
+        for (int i = 0; i < 6; i++) {
+            y.target(0, 250 - 50 * i, 0, 0);
+        }
+        Due.same("15 six times", y.handOut(), 6);
+        Due.same("15 six times", y.bus(0), 6 * 10 * 22);
+        Due.same("15 the last is the first", y.ofTarget(5, 0), 8);
+        Due.same("15 the first is the last", y.ofTarget(0, 0), 13);
     }
 
     private static void handOutLetsGo() {
@@ -913,6 +978,7 @@ public final class PromiseTest {
 
     private static void sampleEdges() {
         Openline x = new Openline();
+        Due.same("17 both are 1 at first", drive(x, "11"), 0);
         Due.same("17 both fall: nothing", drive(x, "00"), 0);
         Due.same("17 both rise: a bit", drive(x, "11"), 0);
         Due.same("17 data falls with the clock high", drive(x, "10"), 1);
@@ -1005,6 +1071,13 @@ public final class PromiseTest {
         x.open(8);
         x.power(0, false);
         Due.same("18 no clash", ofTarget(x, 1), "20 22 13 140 3 1 1 0 6 0");
+        Openline y = new Openline();
+        y.target(20, 0, 0, 0);
+        y.target(20, 0, 0, 0);
+        y.target(20, 0, 0, 0);
+        y.wire(2, 1);
+        Due.same("18 both clash", y.ofTarget(0, 9) + y.ofTarget(1, 9), 2);
+        Due.same("18 who does not listen does not", y.ofTarget(2, 9), 0);
         Due.refused("18 target 5", x, INDEX, () -> x.ofTarget(5, 0));
         Due.refused("18 target -1", x, INDEX, () -> x.ofTarget(-1, 10));
         Due.refused("18 what 10", x, ARGUMENT, () -> x.ofTarget(0, 10));
