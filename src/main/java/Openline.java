@@ -4,6 +4,7 @@ import java.util.ArrayList;
 public final class Openline {
     private static final int NONE = -1;
     private static final int WRITTEN = 256;
+    private static final int NEVER = 2147483647;
     private static final int NO_RESULT = 999;
 
     private static final int MOST_TARGETS = 6;
@@ -377,7 +378,7 @@ public final class Openline {
 
     /** The TICK at which the next OCCUPATION begins. */
     private int beginning() {
-        int earliest = Integer.MAX_VALUE;
+        int earliest = NEVER;
         for (int i = 0; i < masters.size(); i++) {
             Master one = masters.get(i);
             if (!one.script.isEmpty()) {

@@ -32,9 +32,12 @@ final class Due {
     static void refused(String what, Openline x, Class<? extends RuntimeException> kind, Call call) {
         asked++;
         String before = state(x);
-        String got = thrownBy(call);
+        RuntimeException thrown = thrown(call);
+        String got = thrown == null ? "nothing" : thrown.getClass().getSimpleName();
         if (!got.equals(kind.getSimpleName())) {
             tell(what + " threw " + got + ", due is " + kind.getSimpleName());
+        } else if (!isByThrow(thrown)) {
+            tell(what + ": the machine or the library threw " + got);
         }
         if (!state(x).equals(before)) {
             tell(what + " was refused and changed something");
@@ -42,12 +45,25 @@ final class Due {
     }
 
     static String thrownBy(Call call) {
+        RuntimeException thrown = thrown(call);
+        return thrown == null ? "nothing" : thrown.getClass().getSimpleName();
+    }
+
+    private static RuntimeException thrown(Call call) {
         try {
             call.now();
-            return "nothing";
+            return null;
         } catch (RuntimeException e) {
-            return e.getClass().getSimpleName();
+            return e;
         }
+    }
+
+    /** Whether a throw statement of Openline threw it, and not the machine or the library. */
+    static boolean isByThrow(Throwable thrown) {
+        StackTraceElement[] trace = thrown.getStackTrace();
+        // the machine leaves the trace out where it throws again and again
+        return trace.length != 0 && trace[0].getClassName().equals("Openline")
+            && (trace[0].getMethodName().startsWith("demand") || trace[0].getMethodName().endsWith("At"));
     }
 
     static void tell(String line) {
@@ -62,7 +78,8 @@ final class Due {
         }
     }
 
-    private static String state(Openline x) {
+    /** All that digest() counts, and both texts. */
+    static String state(Openline x) {
         return x.digest() + " " + x.trace() + " " + x.text();
     }
 }

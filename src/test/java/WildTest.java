@@ -37,17 +37,10 @@ public final class WildTest {
             int[] numbers = {number(isTame), number(isTame), number(isTame), number(isTame), below(2)};
             Object got = Calls.answerOrThrown(x, method, numbers);
             boolean isDue = got != null
-                && (!(got instanceof Throwable) || isThrown((Throwable) got)
+                && (!(got instanceof Throwable) || Due.isByThrow((Throwable) got)
                 && Arrays.asList(method.getExceptionTypes()).contains(got.getClass()));
             Due.same(method.getName() + Arrays.toString(numbers) + " gave " + got, isDue, true);
         }
         Due.same("isSound behind it", x.isSound(), true);
-    }
-
-    /** Whether a throw statement of Openline threw it, and not the machine or the library. */
-    private static boolean isThrown(Throwable thrown) {
-        StackTraceElement[] trace = thrown.getStackTrace();
-        return trace.length == 0 || trace[0].getClassName().equals("Openline")
-            && (trace[0].getMethodName().startsWith("demand") || trace[0].getMethodName().endsWith("At"));
     }
 }
