@@ -84,7 +84,7 @@ public final class LanguageTest {
     private static void onlyWhatIsAllowed(String code) {
         String[] forbidden = {"\\btry\\b", "\\bcatch\\b", "\\bfinally\\b", "\\bassert\\b", "\\bsynchronized\\b", "->", "::",
             "\\bsuper\\b", "\\binstanceof\\b", "\\bequals\\b", "\\bhashCode\\b", "\\bMath\\.\\w*Exact\\b", "\\bSystem\\b",
-            "\\bThread\\b", "\\bObject\\b", "\\bRandom\\b", "\\bwhile \\(true\\)", "for \\(;", "\\bthis\\)", "\\bthis,"};
+            "\\bThread\\b", "\\b(Integer|Long)\\.[A-Z]", "\\bObject\\b", "\\bRandom\\b", "\\bwhile \\(true\\)", "for \\(;", "\\bthis\\)", "\\bthis,"};
         for (String one : forbidden) {
             Due.same("in the source: " + one, Pattern.compile(one).matcher(code).find(), false);
         }

@@ -19,11 +19,14 @@ public final class PromisesEdgeTest {
         clocksStop();
         ticksAddUp();
         textIsFull();
+        factsOfAll();
         results();
+        countsOfTheBus();
         traces();
         scans();
         wouldAtItsEdges();
         fits();
+        soundAtItsEdges();
         digestWrapsAround();
         Due.end("PromisesEdgeTest");
     }
@@ -34,6 +37,9 @@ public final class PromisesEdgeTest {
         x.target(20, 1, 1, 0);
         x.target(21, 2, 0, 50);
         x.target(0, 3, 0, 0);
+        for (int register = 0; register <= 15; register++) {
+            x.put(0, register, 255 - register);
+        }
         for (int master = 0; master < 2; master++) {
             x.master(10, 5);
             x.read(master, 20, 1, false);
@@ -222,7 +228,18 @@ public final class PromisesEdgeTest {
         Due.same("18 the last target", x.ofTarget(5, 5), 1);
         Due.same("20 the last master", x.ofMaster(2, 2), 8);
         Due.same("29 sound", x.isSound(), true);
-        Due.same("12 all go", x.run(), 9);
+        for (int i = 0; i < 8; i++) {
+            x.write(0, 10 + i, 0, 0, false);
+            if (i > 0) {
+                x.read(1, 20 + i, 0, false);
+            }
+        }
+        isRefused(x, "read", STATE, 0, 0, 0, 0);
+        isRefused(x, "write", STATE, 1, 0, 0, 0, 0);
+        Due.same("12 three full scripts, no two alike", x.run(), 24);
+        Due.same("22 all of them", x.bus(1), 24);
+        Due.same("22 all were refused", x.bus(6), 24);
+        Due.same("12 none is left", x.run(), 0);
     }
 
     // ---- "If several exceptions apply, the one that is named first is thrown."
@@ -389,6 +406,56 @@ public final class PromisesEdgeTest {
         return signs;
     }
 
+    // ---- promises 18 to 20
+
+    /** Every fact with a number of its own, so that none can stand for another one, and each of those that are 0 or 1 as both. */
+    private static void factsOfAll() {
+        Openline x = new Openline();
+        x.target(20, 33, 4, 105);
+        x.target(20, 44, 5, 106);
+        x.wire(1, 2);
+        x.master(12, 50);
+        x.master(13, 60);
+        facts(x, 0, "20 33 4 105 0 1 1 0 0 0");
+        facts(x, 1, "20 44 5 106 2 1 0 0 0 0");
+        x.open(4);
+        facts(x, 0, "20 33 4 105 0 1 1 0 0 1");
+        facts(x, 1, "20 44 5 106 2 1 1 0 0 1");
+        x.power(0, false);
+        facts(x, 0, "20 33 4 105 0 0 0 0 0 0");
+        facts(x, 1, "20 44 5 106 2 1 1 0 0 0");
+        Due.same("19 a register without power", x.register(0, 15), 0);
+        x.write(0, 20, 3, 7, false);
+        x.write(1, 20, 3, 9, false);
+        x.write(1, 20, 3, 9, false);
+        factsOfMaster(x, 0, "12 50 1 0 0 0 1");
+        x.step();
+        // bits of 13 up to the byte in which the other one loses, then of 12
+        factsOfMaster(x, 0, "12 50 0 1 0 " + (13 * 28 + 10 + 12 + 50) + " 1");
+        factsOfMaster(x, 1, "13 60 2 0 1 " + (13 * 28 + 10 + 12 + 60) + " 1");
+        facts(x, 1, "20 44 5 106 2 1 1 1 0 0");
+        x.pass(106);
+        x.read(0, 20, 3, false);
+        x.cut(0, 2);
+        facts(x, 1, "20 44 5 106 2 1 1 0 6 0");
+        x.resistor(21);
+        factsOfMaster(x, 1, "13 60 2 0 1 446 0");
+    }
+
+    private static void facts(Openline x, int target, String want) {
+        String[] all = want.split(" ");
+        for (int what = 0; what < all.length; what++) {
+            Due.same("18 target " + target + ", " + what, x.ofTarget(target, what), Integer.parseInt(all[what]));
+        }
+    }
+
+    private static void factsOfMaster(Openline x, int master, String want) {
+        String[] all = want.split(" ");
+        for (int what = 0; what < all.length; what++) {
+            Due.same("20 master " + master + ", " + what, x.ofMaster(master, what), Integer.parseInt(all[what]));
+        }
+    }
+
     // ---- promise 21
 
     private static void results() {
@@ -423,6 +490,68 @@ public final class PromisesEdgeTest {
         isRefused(y, "result", INDEX, 0, 1);
         isRefused(y, "result", INDEX, 1, 0);
         isRefused(y, "result", INDEX, 2, 0);
+    }
+
+    // ---- promise 22
+
+    /** OCCUPATIONS, BYTES, REFUSED ones and CLOCKS ever, behind each thing that counts or does not. */
+    private static void countsOfTheBus() {
+        Openline x = new Openline();
+        x.target(20, 0, 0, 0);
+        x.target(0, 0, 0, 0);
+        x.master(10, 0);
+        x.master(10, 0);
+        x.write(0, 20, 1, 1, false);
+        x.step();
+        counts(x, "a write", 1, 3, 0, 0);
+        x.write(0, 20, 1, 1, true);
+        x.step();
+        counts(x, "a checked write", 2, 7, 0, 0);
+        x.read(0, 20, 1, false);
+        x.step();
+        counts(x, "a read", 3, 11, 0, 0);
+        x.read(0, 20, 1, true);
+        x.step();
+        counts(x, "a checked read", 4, 16, 0, 0);
+        x.write(0, 21, 1, 1, true);
+        x.write(1, 21, 1, 1, true);
+        x.step();
+        counts(x, "an address that is refused to two", 5, 17, 2, 0);
+        x.read(0, 20, 16, true);
+        x.step();
+        counts(x, "a register that is refused", 6, 19, 3, 0);
+        x.write(0, 20, 1, 1, false);
+        x.write(1, 20, 1, 2, false);
+        x.step();
+        counts(x, "a loss", 7, 22, 3, 0);
+        x.step();
+        counts(x, "who lost, again", 8, 25, 3, 0);
+        x.read(0, 21, 1, false);
+        x.cut(0, 8);
+        counts(x, "a cut refused by its address", 8, 26, 4, 0);
+        x.read(0, 20, 16, false);
+        x.cut(0, 8);
+        counts(x, "a cut refused by its register", 8, 28, 5, 0);
+        x.read(0, 20, 1, false);
+        x.cut(0, 8);
+        counts(x, "a cut behind all bits", 8, 31, 6, 0);
+        x.read(0, 20, 1, true);
+        x.cut(0, 1);
+        counts(x, "a cut behind the first bit", 8, 34, 7, 0);
+        x.clocks(2);
+        counts(x, "two clocks", 8, 34, 7, 2);
+        x.clocks(9);
+        x.handOut();
+        x.would(0);
+        // the byte is 2: behind its first bit there are five bits of 0, then its 1
+        counts(x, "clocks till it is free, and ids", 8, 34, 7, 5);
+    }
+
+    private static void counts(Openline x, String behind, int occupations, int bytes, int refused, int clocks) {
+        Due.same("22 occupations behind " + behind, x.bus(1), occupations);
+        Due.same("22 bytes behind " + behind, x.bus(5), bytes);
+        Due.same("22 refused behind " + behind, x.bus(6), refused);
+        Due.same("22 clocks behind " + behind, x.bus(7), clocks);
     }
 
     // ---- promise 23
@@ -553,6 +682,34 @@ public final class PromisesEdgeTest {
             }
             Due.same("28 the resistor stands", x.bus(3), (10 + 15 * many + 9) / 10);
         }
+    }
+
+    // ---- promise 29
+
+    /** The greatest and the least that SOUND allows: bytes 0 and 255, 8 transfers, addresses 0, 8 and 119, NONE and 256. */
+    private static void soundAtItsEdges() {
+        Openline x = new Openline();
+        x.target(0, 0, 0, 0);
+        x.target(8, 0, 0, 0);
+        x.target(119, 0, 0, 0);
+        x.put(0, 0, 255);
+        x.put(2, 15, 255);
+        x.put(2, 15, 0);
+        x.master(10, 0);
+        for (int i = 0; i < 8; i++) {
+            x.write(0, i % 2 == 0 ? 119 : 20, 15, 255, false);
+        }
+        Due.same("29 a full script", x.isSound(), true);
+        x.run();
+        Due.same("29 the least and the greatest result", x.result(0, 0) + x.result(0, 1), 255);
+        Due.same("29 results", x.isSound(), true);
+        x.power(0, false);
+        Due.same("29 one without power that does not hold", x.isSound(), true);
+        x.read(0, 8, 0, false);
+        x.cut(0, 7);
+        Due.same("29 one with power that holds one bit", x.isSound(), true);
+        x.power(1, false);
+        Due.same("29 its power gone", x.isSound(), true);
     }
 
     // ---- promise 30

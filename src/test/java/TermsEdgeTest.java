@@ -53,6 +53,7 @@ public final class TermsEdgeTest {
         for (int delay : new int[] {0, 1, 2, 199, 200}) {
             busyAsLongAs(delay);
         }
+        onlyWritesKeepBusy();
         asPowerGoesAtTheFirstTick();
         asPowerGoes();
         for (int many = 0; many <= 6; many++) {
@@ -122,6 +123,30 @@ public final class TermsEdgeTest {
         }
         Due.same("t1 not busy at its end, delay " + delay, x.ofTarget(0, 7), 0);
         Due.same("t1 it answers at its end, delay " + delay, x.scan(20, 20), 1);
+    }
+
+    /** "As a BYTE is written into a REGISTER", in an OCCUPATION: neither by what is read, nor put, nor refused, nor cut. */
+    private static void onlyWritesKeepBusy() {
+        Openline x = new Openline();
+        x.target(20, 0, 0, 200);
+        x.target(20, 0, 0, 200);
+        x.put(0, 1, 0x0f);
+        x.put(1, 1, 0xf0);
+        x.master(10, 0);
+        Due.same("t1 put keeps nobody busy", x.scan(20, 20), 1);
+        x.read(0, 20, 1, true);
+        x.write(0, 20, 16, 1, true);
+        x.read(0, 20, 1, true);
+        x.step();
+        Due.same("t1 nor does what is read", x.ofTarget(0, 7) + x.ofTarget(1, 7), 0);
+        Due.same("t1 what is read stands", x.register(0, 1) + x.register(1, 1), 255);
+        x.step();
+        Due.same("t1 nor what is refused", x.ofTarget(0, 7) + x.ofTarget(1, 7), 0);
+        x.cut(0, 8);
+        Due.same("t1 nor a cut", x.ofTarget(0, 7) + x.ofTarget(1, 7), 0);
+        x.write(0, 20, 1, 1, true);
+        x.step();
+        Due.same("t1 but what is written", x.ofTarget(0, 7) + x.ofTarget(1, 7), 2);
     }
 
     private static void asPowerGoesAtTheFirstTick() {
@@ -648,10 +673,12 @@ public final class TermsEdgeTest {
             want = step(want ^ one, 8);
         }
         Due.same("t2 the check of a read", x.trace(), "See+0f+Sef+ff+" + String.format("%02x", want) + "-P");
-        x.write(0, 119, 15, 0, true);
-        x.step();
-        Due.same("t2 the check of a write begins anew", x.trace(),
-            "See+0f+00+" + String.format("%02x", x.check(238, 15, 0)) + "+P");
+        for (int value = 0; value < 4; value++) {
+            x.write(0, 119, 15, value, true);
+            x.step();
+            Due.same("t2 c is 0 at first, each time", x.trace(),
+                "See+0f+0" + value + "+" + String.format("%02x", x.check(238, 15, value)) + "+P");
+        }
     }
 
     // ---- 2. TIME
